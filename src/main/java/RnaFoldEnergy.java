@@ -71,8 +71,6 @@ public final class RnaFoldEnergy {
         }
         for (int p = 0; p < MOST_BASES; p++) {
             trial[p] = NONE;
-            walk[p] = NONE;
-            best[p] = NONE;
         }
         setFirstTerms();
     }

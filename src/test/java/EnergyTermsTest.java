@@ -109,6 +109,7 @@ public final class EnergyTermsTest {
 
     private static void sideBySide() {
         counts("GAACGAAC", "(..)(..)", 6, 2, 7, 4);
+        counts("AGGUACCU", "(..)(..)", 6, 2, 7, 4, 16, 4);
         counts("AGGUAGAACAUGGA", "(..).(..).(..)", 6, 3, 7, 6, 16, 4);
         counts("AAGGUUCCGGAACC", "((..))..((..))", 0, 1, 3, 1, 6, 2, 7, 4, 16, 2);
     }
