@@ -35,7 +35,7 @@ public final class AgainstModelTest {
             CHECK.due(at + " addBase(" + base + ")", got.addBase(base), want.addBase(base));
         }
         if (run % 4 == 0) {
-            askEverything(at, got, want);
+            askEverything(at, got, want, run / 4 % 3);
         }
         for (int call = 0; call < CALLS && CHECK.wrong() == 0; call++) {
             oneCall(at + " call " + call + " ", got, want, style);
@@ -87,7 +87,8 @@ public final class AgainstModelTest {
         }
     }
 
-    private static void askEverything(String at, RnaFoldEnergy got, DocumentModel want) {
+    /** One question about the pairs in each run, or the object would have more than its 512 calls. */
+    private static void askEverything(String at, RnaFoldEnergy got, DocumentModel want, int question) {
         CHECK.due(at + " leastEnergy()", got.leastEnergy(), want.leastEnergy());
         CHECK.due(at + " structures()", got.structures(), want.structures());
         for (int k = -1; k <= 8; k++) {
@@ -97,9 +98,11 @@ public final class AgainstModelTest {
             CHECK.due(at + " partner(" + i + ")", got.partner(i), want.partner(i));
             for (int j = -1; j <= want.length(); j++) {
                 String pair = "(" + i + ", " + j + ")";
-                CHECK.due(at + " canPair" + pair, got.canPair(i, j), want.canPair(i, j));
-                CHECK.due(at + " needed" + pair, got.needed(i, j), want.needed(i, j));
-                CHECK.due(at + " optimaWith" + pair, got.optimaWith(i, j), want.optimaWith(i, j));
+                switch (question) {
+                    case 0: CHECK.due(at + " canPair" + pair, got.canPair(i, j), want.canPair(i, j)); break;
+                    case 1: CHECK.due(at + " needed" + pair, got.needed(i, j), want.needed(i, j)); break;
+                    default: CHECK.due(at + " optimaWith" + pair, got.optimaWith(i, j), want.optimaWith(i, j)); break;
+                }
             }
         }
     }

@@ -3,9 +3,9 @@ final class Check {
     private int wrong = 0;
     private long asked = 0;
 
-    void due(String call, long got, long want) {
+    void due(String call, String got, String want) {
         asked++;
-        if (got != want) {
+        if (!got.equals(want)) {
             wrong++;
             if (wrong <= 40) {
                 System.out.println(call + " answered " + got + ", due is " + want);
@@ -13,8 +13,12 @@ final class Check {
         }
     }
 
+    void due(String call, long got, long want) {
+        due(call, "" + got, "" + want);
+    }
+
     void due(String call, boolean got, boolean want) {
-        due(call, got ? 1 : 0, want ? 1 : 0);
+        due(call, "" + got, "" + want);
     }
 
     int wrong() {

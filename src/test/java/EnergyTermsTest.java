@@ -34,6 +34,10 @@ public final class EnergyTermsTest {
         interiorLoops();
         multiloops();
         sideBySide();
+        oneInsideAtItsEdges();
+        numberInsideAtItsEdges();
+        directlyInsideAtItsEdges();
+        endsAtTheirEdges();
         firstValues();
         CHECK.finish();
     }
@@ -112,6 +116,49 @@ public final class EnergyTermsTest {
         counts("AGGUACCU", "(..)(..)", 6, 2, 7, 4, 16, 4);
         counts("AGGUAGAACAUGGA", "(..).(..).(..)", 6, 3, 7, 6, 16, 4);
         counts("AAGGUUCCGGAACC", "((..))..((..))", 0, 1, 3, 1, 6, 2, 7, 4, 16, 2);
+    }
+
+    /** "x = y = 0: a stack", "just one of x, y is 0: a bulge", "neither is 0: an interior loop": all x and y that 14 bases allow. */
+    private static void oneInsideAtItsEdges() {
+        for (int x = 0; x <= 8; x++) {
+            for (int y = 0; x + y <= 8; y++) {
+                String letters = "G" + "A".repeat(x) + "GAAC" + "A".repeat(y) + "C";
+                String brackets = "(" + ".".repeat(x) + "(..)" + ".".repeat(y) + ")";
+                if (x == 0 && y == 0) {
+                    counts(letters, brackets, 6, 1, 7, 2, 0, 1);
+                } else if (x == 0 || y == 0) {
+                    counts(letters, brackets, 6, 1, 7, 2, 8, 1, 9, x + y);
+                } else {
+                    counts(letters, brackets, 6, 1, 7, 2, 10, 1, 11, x + y, 12, Math.max(x, y) - Math.min(x, y));
+                }
+            }
+        }
+    }
+
+    /** "a = 0: a hairpin", "a = 1", "a >= 2: a multiloop": none to three inside, the most that 14 bases allow. */
+    private static void numberInsideAtItsEdges() {
+        counts("GAAAAAAAAAAAAC", "(............)", 6, 1, 7, 12);
+        counts("GGAACAAAAAAAAC", "((..)........)", 6, 1, 7, 2, 8, 1, 9, 8);
+        counts("GGAACGAACAAAAC", "((..)(..)....)", 6, 2, 7, 4, 13, 1, 14, 3, 15, 4);
+        counts("GGAACGAACGAACC", "((..)(..)(..))", 6, 3, 7, 6, 13, 1, 14, 4);
+    }
+
+    /** "no third pair (p, q) has i < p < k and l < q < j": what lies deeper counts in no other loop. */
+    private static void directlyInsideAtItsEdges() {
+        counts("GGGAACCC", "(((..)))", 0, 2, 6, 1, 7, 2);
+        counts("GGAGAACACC", "((.(..).))", 0, 1, 6, 1, 7, 2, 10, 1, 11, 2);
+        counts("GGGAACGAACCC", "(((..)(..)))", 0, 1, 6, 2, 7, 4, 13, 1, 14, 3);
+        counts("GAGAGAACACAC", "(.(.(..).).)", 6, 1, 7, 2, 10, 2, 11, 4);
+    }
+
+    /** "A pair that lies inside no other pair adds end(i, j) once more": weak pairs inside strong ones and beside them. */
+    private static void endsAtTheirEdges() {
+        counts("ACCU", "(..)", 6, 1, 7, 2, 16, 2);
+        counts("GACCUC", "((..))", 1, 1, 6, 1, 7, 2, 16, 1);
+        counts("GACCUAC", "((..).)", 6, 1, 7, 2, 8, 1, 9, 1, 16, 2);
+        counts("ACCUGAAC", "(..)(..)", 6, 2, 7, 4, 16, 2);
+        counts("GAACACCU", "(..)(..)", 6, 2, 7, 4, 16, 2);
+        counts("GACCUACCUC", "((..)(..))", 6, 2, 7, 4, 13, 1, 14, 3, 16, 4);
     }
 
     /** With the first values; GCAAGC's best structure has a positive energy, so the least is 0. */

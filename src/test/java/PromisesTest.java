@@ -66,16 +66,7 @@ public final class PromisesTest {
         for (int n = 14; n >= 1; n--) {
             CHECK.due("2: the bases kept their order", fold.dropBase(), n % 4);
         }
-        newBaseIsNotBlocked();
         CHECK.due("2: a base changes what follows", Sequences.make(2, "GAAC").structures(), 2);
-    }
-
-    private static void newBaseIsNotBlocked() {
-        RnaFoldEnergy fold = Sequences.make(2, "GAAC");
-        fold.block(3, true);
-        fold.dropBase();
-        fold.addBase(1);
-        CHECK.due("2: canPair(0, 3) after block, drop and add", fold.canPair(0, 3), true);
     }
 
     private static void dropBase() {
@@ -98,17 +89,6 @@ public final class PromisesTest {
         for (int base : rest) {
             CHECK.due("3: dropBase() to the end", fold.dropBase(), base);
         }
-        blockGoesWithItsBase();
-    }
-
-    private static void blockGoesWithItsBase() {
-        RnaFoldEnergy fold = Sequences.make(2, "GAACC");
-        fold.block(3, true);
-        fold.block(4, true);
-        fold.dropBase();
-        fold.addBase(1);
-        CHECK.due("3: the dropped base's block is gone", fold.canPair(0, 4), true);
-        CHECK.due("3: the other base's block is still there", fold.canPair(0, 3), false);
     }
 
     private static void length() {
@@ -269,8 +249,7 @@ public final class PromisesTest {
     }
 
     private static void best(String at, RnaFoldEnergy fold, String want) {
-        String got = Sequences.best(fold);
-        CHECK.due(at + " best is " + got + ", due is " + want + ":", got.equals(want), true);
+        CHECK.due(at, Sequences.best(fold), want);
     }
 
     private static void partner() {

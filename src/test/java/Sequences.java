@@ -5,10 +5,18 @@ final class Sequences {
 
     static RnaFoldEnergy make(int minimum, String letters) {
         RnaFoldEnergy fold = new RnaFoldEnergy(minimum);
+        add(fold, letters);
+        return fold;
+    }
+
+    static void add(RnaFoldEnergy fold, String letters) {
         for (char letter : letters.toCharArray()) {
             fold.addBase("ACGU".indexOf(letter));
         }
-        return fold;
+    }
+
+    static int trialEnergy(RnaFoldEnergy fold) {
+        return fold.trialGap() + fold.leastEnergy();
     }
 
     /** The last answer of trialPair, or 0 if there is no pair. */
