@@ -17,6 +17,7 @@ public final class PromiseEdgesTest {
 
     public static void main(String[] args) {
         witnessSeesChanges();
+        questionsChangeNothing();
         minimumIsClamped();
         newObjectIsEmpty();
         fullAtFourteen();
@@ -97,7 +98,32 @@ public final class PromiseEdgesTest {
             int term = which;
             changes("setEnergy(" + which + ", 60)", PromiseEdgesTest::eight, fold -> fold.setEnergy(term, 60), true);
         }
-        changesNothing("a question", PromiseEdgesTest::eight, fold -> fold.leastEnergy());
+    }
+
+    /** "Nothing is promised beyond the answers and state changes described above": a question changes nothing. */
+    private static void questionsChangeNothing() {
+        int[] numbers = {LOW, -1, 0, 1, 6, 7, 8, 13, 14, HIGH};
+        eachChangesNothing("4: length()", fold -> fold.length());
+        eachChangesNothing("8: leastEnergy()", fold -> fold.leastEnergy());
+        eachChangesNothing("9: structures()", fold -> fold.structures());
+        eachChangesNothing("16: trialGap()", fold -> fold.trialGap());
+        for (int i : numbers) {
+            eachChangesNothing("10: atGap(" + i + ")", fold -> fold.atGap(i));
+            eachChangesNothing("11: partner(" + i + ")", fold -> fold.partner(i));
+            eachChangesNothing("7, 12, 13: questions about a pair of " + i, fold -> {
+                for (int j : numbers) {
+                    fold.canPair(i, j);
+                    fold.needed(i, j);
+                    fold.optimaWith(i, j);
+                }
+            });
+        }
+    }
+
+    private static void eachChangesNothing(String at, Consumer<RnaFoldEnergy> calls) {
+        changesNothing(at + " of none", () -> new RnaFoldEnergy(2), calls);
+        changesNothing(at + " of 8", PromiseEdgesTest::eight, calls);
+        changesNothing(at + " of 14", PromiseEdgesTest::fourteen, calls);
     }
 
     /** 1: "m is minimum clamped into 2..4 (below 2 becomes 2, above 4 becomes 4)." */
